@@ -911,23 +911,21 @@ public final class MoleSecrets {
         /** A MINUTE goes, in which one (or NOBODY) does nothing at all. */
         void passOne(int idle) {
             for (int mole = 0; mole < moles; mole++) {
-                if (mole != idle) {
-                    work(mole);
+                if (mole == idle) {
+                    continue;
+                }
+                // Found out ahead of all, so that what is picked up in this MINUTE doesn't hasten it.
+                int steps = stepsOf(mole);
+                settle(mole);
+                for (int i = 0; i < steps; i++) {
+                    step(mole);
+                    settle(mole);
                 }
             }
             minute++;
         }
 
-        void work(int mole) {
-            // Found out ahead of all, so that what is picked up in this MINUTE doesn't hasten it.
-            int steps = stepsOf(mole);
-            settle(mole);
-            for (int i = 0; i < steps; i++) {
-                step(mole);
-                settle(mole);
-            }
-        }
-
+        /** What is done ahead of the first STEP (of none, too) and behind each. */
         void settle(int mole) {
             if (at[mole] == end[mole]) {
                 bringOut(mole);

@@ -137,6 +137,12 @@ public final class ShireTest {
         c.due("now(3)", x.now(3), 8);
         c.due("now(4)", x.now(4), 4);
         c.due("now(5)", x.now(5), 12);
+        MoleSecrets six = new MoleSecrets();
+        for (int mole = 0; mole < 6; mole++) {
+            six.mole(mole, 0, 0);
+            six.set(mole, 5, 9999);
+        }
+        c.due("now(5) of six", six.now(5), 59994);
         c.due("now(-1)", x.now(-1), Checks.BEYOND);
         c.due("now(6)", x.now(6), Checks.BEYOND);
         for (int far : Checks.FAR_OFF) {
