@@ -19,6 +19,7 @@ public final class MoleSecrets {
     private static final int MOST_HEAPS = 99;
     private static final int MOST_HANDS = 9999;
     private static final int LAST_MINUTE = 99999;
+    private static final int ABOVE_ALL_HANDS = MOST_MOLES * MOST_HANDS + 1;
 
     private static final int UNTOLD = -1;
     private static final int CARRIED = -2;
@@ -270,7 +271,7 @@ public final class MoleSecrets {
             return findings.found(BEYOND);
         }
         int best = -1;
-        int least = Integer.MAX_VALUE;
+        int least = ABOVE_ALL_HANDS;
         for (int cell = 0; cell < CELLS; cell++) {
             if (live.isTunnel(cell)) {
                 continue;
@@ -310,7 +311,7 @@ public final class MoleSecrets {
             return findings.found(BEYOND);
         }
         int best = NOBODY;
-        int least = Integer.MAX_VALUE;
+        int least = ABOVE_ALL_HANDS;
         for (int idle = 0; idle < live.moles; idle++) {
             ahead.become(live);
             ahead.pass(n, idle);
