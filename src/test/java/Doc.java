@@ -15,10 +15,20 @@ final class Doc {
     // The dots of "0, 1, .." end no sentence.
     private static final Pattern SENTENCE = Pattern.compile("(?:[^.]|\\.\\.|\\.(?![. ]|$))+(?:\\.|$)");
 
+    private static final Pattern BOUNDARY = Pattern.compile(
+        "\\b(?:at most|at first|least|latest|never|else|above|below|first|nobody|nothing|none|\\d+ to \\d+)\\b");
+
     private final Map<Integer, String> parts = new HashMap<>();
     private final Map<Integer, boolean[]> taken = new HashMap<>();
+    private final boolean isThere;
 
     Doc() throws IOException {
+        // Without the document the boundaries are held all the same, only their words are not.
+        isThere = Files.isReadable(PLACE);
+        if (!isThere) {
+            System.out.println(PLACE + " is not there: no quotation is looked up");
+            return;
+        }
         String all = Files.readString(PLACE);
         Matcher heads = Pattern.compile("(?m)^## (?:Promise (\\d+):|Not promised).*$").matcher(all);
         int promise = TERMS;
@@ -38,6 +48,9 @@ final class Doc {
 
     /** Why these are not the words of one place there; empty if they are. */
     String take(int promise, String words) {
+        if (!isThere) {
+            return "";
+        }
         String part = parts.getOrDefault(promise, "");
         int place = part.indexOf(words);
         if (place < 0) {
@@ -50,21 +63,26 @@ final class Doc {
         return "";
     }
 
-    /** The first sentence between two places of a promise from which no words were taken; empty if there is none. */
+    /** The first sentence, or boundary's word, between two places of a promise that was not taken; empty if there is none. */
     String left(int promise, String from, String to) {
+        if (!isThere) {
+            return "";
+        }
         String part = parts.getOrDefault(promise, "");
         int begin = part.indexOf(from);
         int end = to.isEmpty() ? part.length() : part.indexOf(to);
         if (begin < 0 || end < begin) {
             return "the document has no such stretch";
         }
-        Matcher sentences = SENTENCE.matcher(part);
-        sentences.region(begin + from.length(), end);
-        while (sentences.find()) {
-            String sentence = sentences.group().trim();
+        String sentence = left(promise, SENTENCE.matcher(part).region(begin + from.length(), end));
+        return sentence.isEmpty() ? left(promise, BOUNDARY.matcher(part).region(begin + from.length(), end)) : sentence;
+    }
+
+    private String left(int promise, Matcher places) {
+        while (places.find()) {
             // A section's number is no sentence.
-            if (!isTaken(promise, sentences.start(), sentences.end()) && sentence.matches(".*[A-Za-z].*")) {
-                return sentence;
+            if (!isTaken(promise, places.start(), places.end()) && places.group().matches(".*[A-Za-z].*")) {
+                return parts.get(promise).substring(Math.max(0, places.start() - 25), places.end());
             }
         }
         return "";

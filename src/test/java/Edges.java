@@ -80,16 +80,16 @@ final class Edges {
         }
     }
 
-    /** Every sentence of these promises has had a test. */
+    /** Every sentence, and every boundary's word, of these promises has had a test. */
     void whole(int first, int last) {
         for (int promise = first; promise <= last; promise++) {
-            checks.same("Promise " + promise + ": a sentence without a test", doc.left(promise, "`: ", ""), "");
+            checks.same("Promise " + promise + ": what is without a test", doc.left(promise, "`: ", ""), "");
         }
     }
 
-    /** Every sentence of a stretch of the terms has had a test. */
+    /** Every sentence, and every boundary's word, of a stretch of the terms has had a test. */
     void wholeOfTerms(String from, String to) {
-        checks.same("Terms: a sentence without a test", doc.left(Doc.TERMS, from, to), "");
+        checks.same("Terms: what is without a test", doc.left(Doc.TERMS, from, to), "");
     }
 
     void end() {

@@ -177,6 +177,7 @@ public final class EdgesOfBestTest {
     private static void digOfSeveral() {
         e.at(21, "of several the least.");
         e.due("dig(60), nobody there", new MoleSecrets().dig(60), 0);
+        e.due("dig(60), six with 9999", six9999().dig(60), 0);
         for (int cell = 0; cell < 30; cell += 29) {
             MoleSecrets x = Everything.tunnel();
             x.cell(cell, 0, 0);
@@ -193,6 +194,16 @@ public final class EdgesOfBestTest {
         MoleSecrets z = Everything.one(1, 6, 11);
         z.mole(0, 12, 17);
         e.due("dig(1)", z.dig(1), 13);
+    }
+
+    /** Six in earth, none of whom can be paid more. */
+    private static MoleSecrets six9999() {
+        MoleSecrets x = new MoleSecrets();
+        for (int mole = 0; mole < 6; mole++) {
+            x.mole(mole, 0, 5);
+            x.set(mole, 5, 9999);
+        }
+        return x;
     }
 
     private static void leave() {
@@ -292,6 +303,7 @@ public final class EdgesOfBestTest {
         brings.set(1, 3, 18);
         e.due("dismiss(1)", brings.dismiss(1), 0);
         e.at(23, "of several the least.");
+        e.due("dismiss(60), six with 9999", six9999().dismiss(60), 0);
         e.due("dismiss(60), six alike", Everything.tunnelOf(0, 5, 0, 0, 0, 0, 0, 0).dismiss(60), 0);
         MoleSecrets last = Everything.tunnelOf(0, 1, 3, 3, 3, 3, 3);
         last.mole(0, 7, 8);

@@ -30,8 +30,8 @@ public final class EdgesOfFindingsTest {
     }
 
     private static void numbersOfFindings() {
-        e.at(Doc.TERMS, "-1000000001 BEYOND, -1000000002 FULL, -1000000003 KIND, -1000000004 NONE, -1000000005 STATE,"
-            + " -1000000006 MISSING, -1000000007 SIZE (in longs, too)");
+        e.at(Doc.TERMS, "FINDINGS are answers below -1000000000: -1000000001 BEYOND, -1000000002 FULL, -1000000003 KIND,"
+            + " -1000000004 NONE, -1000000005 STATE, -1000000006 MISSING, -1000000007 SIZE (in longs, too).");
         MoleSecrets x = Everything.full();
         e.due("where(6)", x.where(6), -1000000001);
         e.due("mole(0, 0, 0)", x.mole(0, 0, 0), -1000000002);
