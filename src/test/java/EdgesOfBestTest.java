@@ -318,8 +318,7 @@ public final class EdgesOfBestTest {
 
     private static void richest() {
         e.at(24, "Who has most HANDS n MINUTES (0 to 200) AHEAD");
-        MoleSecrets x = Everything.one(1, 6, 11);
-        x.mole(0, 0, 5);
+        MoleSecrets x = richer();
         e.due("richest(0)", x.richest(0), 0);
         e.due("richest(1)", x.richest(1), 1);
         e.due("richest(2), 2 and 2", x.richest(2), 0);
@@ -339,6 +338,7 @@ public final class EdgesOfBestTest {
         e.refused("richest(200)", Everything::tunnel, y -> y.richest(200), Checks.NONE);
     }
 
+    /** The second is paid more, but for the MINUTES in which it goes without digging. */
     private static MoleSecrets richer() {
         MoleSecrets x = Everything.one(1, 6, 11);
         x.mole(0, 0, 5);

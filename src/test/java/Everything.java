@@ -115,12 +115,4 @@ final class Everything {
         x.mole(kind, home, end);
         return x;
     }
-
-    /** Earth with one mole of HANDS, and a secret where it is. */
-    static MoleSecrets paid(int kind, int home, int end, int hands) {
-        MoleSecrets x = one(kind, home, end);
-        x.set(0, 5, hands);
-        x.tell(0, home);
-        return x;
-    }
 }
