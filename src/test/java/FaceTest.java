@@ -25,6 +25,7 @@ public final class FaceTest {
 
     public static void main(String[] args) throws IOException {
         face();
+        faceOfTheDocument();
         members();
         classesInside();
         words();
@@ -55,6 +56,20 @@ public final class FaceTest {
         c.due("constructors", makers.length, 1);
         c.due("its parameters", makers[0].getParameterCount(), 0);
         c.due("it is public", makers[0].getModifiers(), Modifier.PUBLIC);
+    }
+
+    /** What stands here as the face is what the document says, so that neither is changed alone. */
+    private static void faceOfTheDocument() throws IOException {
+        Path doc = Path.of("../shared/DOC.md");
+        if (!Files.isReadable(doc)) {
+            return;
+        }
+        Set<String> told = new TreeSet<>();
+        Matcher lines = Pattern.compile("(?m)^    public (\\w+ \\w+)\\((.*)\\);$").matcher(Files.readString(doc));
+        while (lines.find()) {
+            told.add(lines.group(1) + "(" + lines.group(2).replaceAll(" \\w+(?=,|$)", "").replace(" ", "") + ")");
+        }
+        c.same("the document's face", told.toString(), new TreeSet<>(List.of(FACE.split(";"))).toString());
     }
 
     private static void members() {
